@@ -572,6 +572,13 @@ public final class PencilStrikes {
             return place >= 0 && place < size && place < bytes.length ? bytes[place] : -1;
         }
 
+        /** Copies all its bytes to a row's beginning, as far as the row goes, and tells how many. */
+        int copyTo(int[] row) {
+            int copied = Math.max(0, Math.min(size, Math.min(bytes.length, row.length)));
+            System.arraycopy(bytes, 0, row, 0, copied);
+            return copied;
+        }
+
         void clear() {
             size = 0;
         }
@@ -1043,9 +1050,10 @@ public final class PencilStrikes {
         /** The letters of TESTS: those of a DUTY's digits as they stand, and then p. */
         private static final String LETTERS = "wvntifp";
 
+        private final int[] bytes = new int[TEXT_MOST];
         private final int[] steps = new int[TEXT_MOST];
+        private int size;
         private int stepCount;
-        private Text text;
         private int place;
         private int number;
         private int bars;
@@ -1055,7 +1063,7 @@ public final class PencilStrikes {
 
         /** The FAULT of a text as a LAW; -1: none. */
         int faultOf(Text waiting) {
-            text = waiting;
+            size = waiting.copyTo(bytes);
             place = 0;
             stepCount = 0;
             bars = 0;
@@ -1086,7 +1094,7 @@ public final class PencilStrikes {
         // What follows steps over what it names and says true; or it says false, and the place is the FAULT.
 
         private int at() {
-            return text == null ? -1 : text.at(place);
+            return place >= 0 && place < size && place < bytes.length ? bytes[place] : -1;
         }
 
         private boolean clause() {
