@@ -225,6 +225,7 @@ public final class BoundsOfCostsTest {
                 new int[] {7, 7, 0, 7, 0, 1, 7}[kind]);
         }
         Check.due("a THING whose AND falls, too", alone("amw1,w2&w3f1;byp3", 2), 0b0111);
+        Check.due("b's as well as a's", alone("bynw1&w2i3;amp1", 0), 0b111);
         Check.due("CLAUSES of one DUTY alone", alone("amw1,w2;byp3", 3), 0b100);
         Check.due("ALL: up to the END", alone("amp1;bmw1&w2", 5), 0b001);
         Check.due("ALL: the last can't", alone("amw1,w2;bmp1", 5), 0);
@@ -284,6 +285,8 @@ public final class BoundsOfCostsTest {
         Check.due("two of which none falls", apart("amw1,w2;byp3", "bar t<3", 3), 1);
         Check.due("two of which both fall", apart("amw1,w2;byp3", "bar t<3", 2), 0);
         Check.due("BARRED by several bars", apart("amw1,w2;byp3", "bar t=1;bar t=2", 4), 1);
+        Check.due("whose they are, by a's bar", apart("bmw1,w2;amp3", "bar w=0", 4), 0);
+        Check.due("whose they are, by b's bar", apart("bmw1,w2;amp3", "bar w=1", 4), 1);
         Check.due("what can't fall, but is not BARRED", apart("amw1,w2;byp3", "bar t>9", 4), 0);
     }
 
@@ -327,6 +330,8 @@ public final class BoundsOfCostsTest {
         Check.due("a bar holds", saves("amnw1f2", "most 0;bar t=1"), -5);
         Check.due("a bar holds, no most", saves("amw1", "bar t=1"), -5);
         Check.due("one gives nothing", saves("amnw1f2", "most 0;give"), -5);
+        Check.due("a bar of b's", saves("bmnw1f2", "most 0;bar w=1"), -5);
+        Check.due("a bar of a's", saves("bmnw1f2", "most 0;bar w=0"), 2);
         Check.due("the whole does not read", saves("abmw1", "most 0"), -5);
         Check.due("nor does this", saves("am", "sense"), -5);
         PencilStrikes x = Check.with("amw1", "most 0");

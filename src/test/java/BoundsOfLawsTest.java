@@ -15,6 +15,7 @@ public final class BoundsOfLawsTest {
         testsAtTheirNumbers();
         paidToWhoseItIs();
         barsOfADuty();
+        joinedTests();
         giveOfBoth();
         mostAtMost();
         Check.end();
@@ -308,6 +309,36 @@ public final class BoundsOfLawsTest {
         lawful("bar t=2;bar t=9", "amw1&w2", 0);
         lawful("bar t=8;bar t=9", "amw1&w2", 1);
         lawful("bar t=8;bar t=9;bar t=8;bar t=9;bar t=8;bar t=9;bar t=8;bar w=0", "amw1", 0);
+    }
+
+    private static void joinedTests() {
+        Check.sentence("Terms 2", "E: T or T|E. T: F or F&T. F: !F, (E), or a TEST");
+        // w=0 holds for the first two, t=1 for the first and the third
+        String four = "amw1&w2;bmw1&w2";
+        barredBy(four, "w=0", 0b0011);
+        barredBy(four, "t=1", 0b0101);
+        barredBy(four, "w=0&t=1", 0b0001);
+        barredBy(four, "w=0|t=1", 0b0111);
+        barredBy(four, "!w=0", 0b1100);
+        barredBy(four, "!!w=0", 0b0011);
+        barredBy(four, "!!!w=0", 0b1100);
+        barredBy(four, "!!!!w=0", 0b0011);
+        barredBy(four, "((((w=0))))", 0b0011);
+        barredBy(four, "!w=0&t=1", 0b0100);
+        barredBy(four, "!(w=0&t=1)", 0b1110);
+        barredBy(four, "!(w=0|t=1)", 0b1000);
+        barredBy(four, "!(!w=0|!t=1)", 0b0001);
+        barredBy(four, "!w=0|t=1", 0b1101);
+        barredBy(four, "w=0|t=1&!t=1", 0b0011);
+        barredBy(four, "(w=0|t=1)&!t=1", 0b0010);
+        barredBy(four, "t=1&!t=1|w=0", 0b0011);
+        barredBy(four, "w=0&t=1|!w=0&!t=1", 0b1001);
+        barredBy(four, "w=0&t=1&!w=0", 0);
+        barredBy(four, "w=1&t=2|w=0&t=2|w=0&t=1", 0b1011);
+        barredBy(four, "w=1&(t=2|w=0&(t=2|w=0))", 0b1000);
+        barredBy(four, "w=1&(t=2|!(w=0&!t=2))", 0b1100);
+        PencilStrikes x = Check.with(four, "bar w=0&t=1;bar w=1&t=2;bar t=9");
+        Check.due("of several bars together", x.barred(0, 0, 0), 0b1001);
     }
 
     private static void lawful(String law, String bargain, int want) {

@@ -25,30 +25,40 @@ public final class BoundsOfLeftTest {
         Check.end();
     }
 
-    /** Every row of up to four WORDS, held against the sentence told as a pattern. */
+    /** Every row of up to four WORDS, and every one of up to five behind a WHO and a VERB. */
     private static void rowsThatRead() {
         Check.sentence("Terms 1", "A row of WORDS READS if it is: CLAUSES, one at least, with END between");
-        String clause = "[ab][my](p|n?w(,w)*(&w)?i?f?)";
-        String letters = "amnwifp&,;";
-        PencilStrikes x = new PencilStrikes();
         for (int words = 1; words <= 4; words++) {
-            for (int row = 0; row < Math.pow(letters.length(), words); row++) {
-                String text = "";
-                for (int rest = row, i = 0; i < words; i++, rest /= letters.length()) {
-                    text += letters.charAt(rest % letters.length());
-                }
-                if (x.count(0) == 6) {
-                    x = new PencilStrikes();
-                }
-                int b = Check.bargain(x, text.replaceAll("[wifp]", "$01"));
-                Check.due("reads " + text, x.reads(b, 0), text.matches(clause + "(;" + clause + ")*") ? 1 : 0);
-            }
+            rowsOf("", "amnwifp&,;", words);
+            rowsOf("am", "amnwifp&,;", words);
         }
+        rowsOf("by", "nwifp&,;", 5);
+        rowsOf("byw", "wif&,;", 5);
+        rowsOf("bynw,w", "wif&,;", 4);
+        rowsOf("amp;", "bynwifp;", 4);
         for (String text : new String[] {"amw1,w2,w3,w4&w5", "amnw1,w2,w3,w4,w5", "amw1,w2,w3&w4i1f1", "amp1;bmp1;amp1",
             "ayw1;bynw2;ayw1", "amw1&w2i1f1;byp1"}) {
             PencilStrikes y = new PencilStrikes();
             Check.bargain(y, text);
             Check.due("reads " + text, y.reads(0, 0), 1);
+        }
+    }
+
+    /** Held against the sentence told as a pattern. */
+    private static void rowsOf(String ahead, String letters, int words) {
+        String clause = "[ab][my](p|n?w(,w)*(&w)?i?f?)";
+        PencilStrikes x = new PencilStrikes();
+        for (int row = 0; row < Math.pow(letters.length(), words); row++) {
+            StringBuilder text = new StringBuilder(ahead);
+            for (int rest = row, i = 0; i < words; i++, rest /= letters.length()) {
+                text.append(letters.charAt(rest % letters.length()));
+            }
+            if (x.count(0) == 6) {
+                x = new PencilStrikes();
+            }
+            int b = Check.bargain(x, text.toString().replaceAll("[wifp]", "$01"));
+            int want = text.toString().matches(clause + "(;" + clause + ")*") ? 1 : 0;
+            Check.due("reads " + text, x.reads(b, 0), want);
         }
     }
 
@@ -337,7 +347,8 @@ public final class BoundsOfLeftTest {
     private static void lets(int kind, String text, int... sets) {
         PencilStrikes x = new PencilStrikes();
         Check.bargain(x, text);
-        for (int set = 0; set < 1 << x.word(0, -1); set++) {
+        int sets = 1 << x.word(0, -1);
+        for (int set = 0; set < sets; set++) {
             int want = 0;
             for (int one : sets) {
                 want = one == set ? 1 : want;
@@ -372,6 +383,8 @@ public final class BoundsOfLeftTest {
         lets(6, "amw1,w1f3", 0, 0b001100, 0b011000);
         lets(6, "amp1;ayp1", 0, 0b0001111, 0b1111000, 0b0011110, 0b0111100);
         lets(6, "amp1;bmp1", 0, 0b0001111, 0b1111000, 0b0011110, 0b0111100);
+        lets(6, "bmp1;amp1", 0, 0b0001111, 0b1111000, 0b0011110, 0b0111100);
+        lets(6, "bmw1&w2", 0, 0b01100, 0b11000);
         lets(6, "amp1;byp1", 0, 0b0001111, 0b0111100, 0b1111000);
         // without its LONG the first is as the second: a DUTY that was there
         lets(6, "amw1f2;amw1", 0, 0b00001000, 0b11110000, 0b00011111, 0b00111110, 0b01111100, 0b11111000);
