@@ -347,8 +347,8 @@ public final class BoundsOfLeftTest {
     private static void lets(int kind, String text, int... sets) {
         PencilStrikes x = new PencilStrikes();
         Check.bargain(x, text);
-        int sets = 1 << x.word(0, -1);
-        for (int set = 0; set < sets; set++) {
+        int allSets = 1 << x.word(0, -1);
+        for (int set = 0; set < allSets; set++) {
             int want = 0;
             for (int one : sets) {
                 want = one == set ? 1 : want;
