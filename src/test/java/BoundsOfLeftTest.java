@@ -388,9 +388,23 @@ public final class BoundsOfLeftTest {
         lets(6, "amp1;byp1", 0, 0b0001111, 0b0111100, 0b1111000);
         // without its LONG the first is as the second: a DUTY that was there
         lets(6, "amw1f2;amw1", 0, 0b00001000, 0b11110000, 0b00011111, 0b00111110, 0b01111100, 0b11111000);
+        theDutyOfNumberZero();
         lets(6, "am");
         lets(6, "abmw1");
         lets(6, "amw1;");
         lets(6, ";");
+    }
+
+    /** A DUTY whose number is 0 is a DUTY like others. */
+    private static void theDutyOfNumberZero() {
+        PencilStrikes x = Check.with("ayw1;bmw0i0f0", "sense");
+        int zero = Check.bits(2, 3, 4, 5);
+        Check.due("its number", x.means(0, zero, 0), 0);
+        Check.due("how many", x.means(0, zero, -1), 1);
+        Check.due("it was not there", x.let(6, 0, zero), 0);
+        PencilStrikes y = Check.with("ayw0i0f0;bmw1", "sense");
+        Check.due("its number", y.means(0, 0, 0), 0);
+        Check.due("it was there", y.let(6, 0, Check.bits(5, 6, 7, 8)), 1);
+        Check.due("it can fall ALONE", y.alone(3, 0), 3);
     }
 }

@@ -15,6 +15,7 @@ public final class BoundsOfTextsTest {
         wordsOfABargain();
         wordsTwelveAtMost();
         bargainEndsTooEarly();
+        endIsThisTextsOwn();
         bargainNeedNotRead();
         wordsNone();
         wordsFigures();
@@ -250,6 +251,25 @@ public final class BoundsOfTextsTest {
                 Check.due(text, Check.bargain(new PencilStrikes(), text), -10 - text.length());
             }
         }
+    }
+
+    private static void endIsThisTextsOwn() {
+        Check.sentence("Promise 3", "THE TEXT, which is empty then: its end is that of what came since");
+        PencilStrikes x = new PencilStrikes();
+        Check.due("w1", Check.bargain(x, "w1"), 0);
+        Check.due("w, where a 1 stood behind it before", Check.bargain(x, "w"), -11);
+        Check.due("p12", Check.bargain(x, "p12"), -12);
+        Check.due("aw, where a 2 stood behind it before", Check.bargain(x, "aw"), -12);
+        Check.due("a long one", Check.bargain(x, "aaaaaaaaaaaaa"), -22);
+        Check.due("one WORD", Check.bargain(x, "a"), 1);
+        Check.due("its WORDS", x.word(1, -1), 1);
+        Check.due("a LAW", Check.law(x, "give;most 12"), 0);
+        Check.due("a beginning of it", Check.law(x, "give;most "), -20);
+        Check.due("a beginning of it", Check.law(x, "give;"), -15);
+        Check.due("a beginning of it", Check.law(x, "giv"), -13);
+        Check.due("another that is a LAW", Check.law(x, "give;most 1"), 1);
+        Check.due("nothing", x.text(1), -10);
+        Check.due("nothing", x.text(0), -10);
     }
 
     private static void bargainNeedNotRead() {
