@@ -10,14 +10,9 @@ public final class RoomTest {
         Check.due("law", Check.law(x, "bar !(t=1&(n=1|f<9)&i<9|p>9);sense;most 90"), 0);
         x.tape(0, 1, 60);
         ask(x);
-        long before = bytesMade();
-        for (int i = 0; i < CALLS / 20; i++) {
-            ask(x);
-        }
-        long made = bytesMade() - before;
-        // the machine itself may make some while it measures
+        long made = leastMadeByAsking(x);
         Check.due("bytes made by what is asked: " + made, made < 4096 ? 1 : 0, 1);
-        before = bytesMade();
+        long before = bytesMade();
         PencilStrikes y = new PencilStrikes();
         for (int i = 0; i < CALLS / 16; i++) {
             Check.bargain(y, "w1w2w3w4w5w6w7w8w9w0w1w2x");
@@ -28,6 +23,19 @@ public final class RoomTest {
         made = bytesMade() - before;
         Check.due("bytes of six bargains and five laws: " + made, made < 100_000 ? 1 : 0, 1);
         Check.end();
+    }
+
+    /** The least of some measures: the machine itself may make something while it measures. */
+    private static long leastMadeByAsking(PencilStrikes x) {
+        long least = Long.MAX_VALUE;
+        for (int measure = 0; measure < 5; measure++) {
+            long before = bytesMade();
+            for (int i = 0; i < CALLS / 20; i++) {
+                ask(x);
+            }
+            least = Math.min(least, bytesMade() - before);
+        }
+        return least;
     }
 
     private static long bytesMade() {
